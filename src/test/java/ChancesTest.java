@@ -124,7 +124,8 @@ public final class ChancesTest {
     D.due("26 force 4 takes worn too", drawn(four, 66), 1);
     D.due("26 another level", drawn(four, 67), 4);
     D.due("26 no piece 12 to take", drawn(four, 76), 4);
-    D.due("26 80 and on is as 0", drawn("C9999", 80 + 4), 1);
+    D.due("26 80 and on is as 0", drawn(four, 80 + 16), 5);
+    D.due("26 160 and on as well", drawn(four, 160 + 66), 1);
     String whole = Due.rows("C9900", "abcdefghi", 0) + Due.rows("", "jklmnop", 1);
     D.due("26 take 15", drawn(whole, 79), 15);
     D.due("26 14 is under 15", drawn(whole, 78), 16);
@@ -134,6 +135,9 @@ public final class ChancesTest {
     D.due("26 level 2 of force 3", drawn(most, 71), 12);
     D.due("26 no piece 12 to be taken from under 14", drawn(most, 76), 15);
     D.due("26 take 14", drawn(most, 78), 14);
+    D.due("26 take 12", drawn(Due.rows("C9009", "abcdefghijklm", 0), 76), 12);
+    D.due("26 level 3 of force 4", drawn(whole, 75), 15);
+    D.due("26 level 3 of force 3 is held by a worn tent", drawn(whole, 74), 16);
     D.due("26 a heavy tent on a worn flat", drawn("C9999Pa0Pb0Pe1", 31), 2);
     // The doings follow on one another, and each time counts: a put, then nothing more by chance.
     CardHouse x = Due.built("C9999");
