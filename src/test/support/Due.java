@@ -2,17 +2,34 @@
 final class Due {
   private int wrong = 0;
   private int calls = 0;
+  private int sentences = 0;
+  private String sentence = "";
+
+  /** The words of the document that the answers from here on belong to. */
+  void sentence(String words) {
+    sentences++;
+    sentence = "[" + words + "] ";
+  }
 
   void due(String call, long got, long want) {
     calls++;
     if (got != want) {
       wrong++;
-      System.out.println(call + " answered " + got + ", due is " + want);
+      System.out.println(sentence + call + " answered " + got + ", due is " + want);
+    }
+  }
+
+  void same(String what, String got, String want) {
+    calls++;
+    if (!got.equals(want)) {
+      wrong++;
+      System.out.println(sentence + what + " shows\n  " + got + "\ndue is\n  " + want);
     }
   }
 
   void end() {
-    System.out.println(wrong == 0 ? calls + " answers are as due" : wrong + " answers are not as due");
+    String of = sentences == 0 ? "" : " of " + sentences + " sentences";
+    System.out.println(wrong == 0 ? calls + " answers" + of + " are as due" : wrong + " answers are not as due");
     if (wrong != 0) System.exit(1);
   }
 
