@@ -25,6 +25,7 @@ public final class EdgesActsTest {
     undoFourteen();
     undoFifteen();
     undoMany();
+    undoForgottenFell();
     undoRefused();
     undoAllOfIt();
     D.end();
@@ -320,6 +321,21 @@ public final class EdgesActsTest {
     D.due("full again", y.about(5), 14);
     y.undo();
     D.due("undone", y.about(1), 9);
+  }
+
+  /** Tent 0 put and blown down, over and over: each step back has what had fallen by then. */
+  private static void undoForgottenFell() {
+    D.sentence("when it is full, the first one is forgotten (how many FELL)");
+    CardHouse x = Due.built("C9999");
+    for (int i = 0; i < 20; i++) {
+      if (i % 2 == 0) x.put(0, 0);
+      else x.draught(0, 3);
+    }
+    for (int i = 19; i >= 6; i--) {
+      D.due("undo of " + i, x.undo(), i - 6);
+      D.due("fell ahead of " + i, x.about(3), i / 2);
+    }
+    D.due("none", x.undo(), -3);
   }
 
   private static void undoRefused() {

@@ -28,6 +28,7 @@ public final class EdgesChancesTest {
     eveningsDraught();
     eveningsTaken();
     eveningsEachTime();
+    eveningsFromNow();
     eveningsChangeNothing();
     D.end();
   }
@@ -324,23 +325,53 @@ public final class EdgesChancesTest {
     }
   }
 
+  /** What x draws, done by the calls themselves. */
+  private static void doDrawn(CardHouse x, int drawn) {
+    if (drawn < 64) x.put(drawn / 4, drawn % 4);
+    else if (drawn < 76) x.draught((drawn - 64) / 3, 2 + (drawn - 64) % 3);
+    else x.take(drawn - 64);
+  }
+
   private static void eveningsEachTime() {
     D.sentence("PIECES that are there, each time, together");
-    // A draw of 0 .. 3 puts tent 0; seeds run on from one that draws it.
-    CardHouse x = Due.built("C9999");
-    long seed = before(0);
-    x.seed(seed);
-    D.due("one", x.evenings(1), 1);
-    int together = 1;
-    for (int m = 2; m <= 30; m++) {
-      x.seed(seed);
-      int sum = x.evenings(m);
-      D.due("no fewer by " + m, sum >= together ? 1 : 0, 1);
-      together = sum;
+    String[] texts = {"C9999", "C1111Pa0Pb1", "C9999Pa0Pb1Pe1", Ground.WHOLE};
+    for (String text : texts) {
+      for (long first = -20; first < 20; first++) {
+        CardHouse x = Due.built(text);
+        CardHouse y = Due.built(text);
+        long seed = first;
+        int together = 0;
+        for (int m = 1; m <= 30; m++) {
+          seed = seed * TIMES + MORE;
+          doDrawn(y, (int) ((seed >>> 33) % 80));
+          together += y.about(0);
+          x.seed(first);
+          D.due(text + ", seed " + first + ", " + m + " times", x.evenings(m), together);
+        }
+      }
     }
-    x.seed(seed);
-    D.due("thirty", x.evenings(30), together);
     D.due("of no cards", Due.built("C0000").evenings(30), 0);
+  }
+
+  private static void eveningsFromNow() {
+    D.sentence("EVENINGS: from PIECES as they are now");
+    CardHouse x = Due.built("C9999Pa0Pb0");
+    // 79 takes the last tent: there is none, so what stands now is counted.
+    long nothing = before(79L << 33);
+    int[] due = {2, 1, 2, 3, 2};
+    for (int i = 0; i < 5; i++) {
+      x.seed(nothing);
+      D.due("as it is at " + i, x.evenings(1), due[i]);
+      if (i == 0) x.take(1);
+      if (i == 1) x.put(2, 3);
+      if (i == 2) x.put(1, 0);
+      if (i == 3) x.undo();
+    }
+    // A tent is put in one call, and is not there in the next.
+    x.seed(before(12L << 33));
+    D.due("tent 3 is put", x.evenings(1), 3);
+    x.seed(nothing);
+    D.due("not in the next call", x.evenings(1), 2);
   }
 
   private static void eveningsChangeNothing() {

@@ -102,6 +102,10 @@ public final class EdgesHeldTest {
     D.due("one", y.unhold(), 1);
     D.due("all can be so", y.tents(0), 16);
     D.due("and the first", y.tents(1), 0);
+    y.hold(1, 4, 0, 1);
+    D.due("heavy is the other", y.tents(1), 3);
+    D.due("one of the other", y.unhold(), 1);
+    D.due("all can be so again", y.tents(0), 16);
     for (int i = 1; i <= 6; i++) D.due("six again", y.hold(1, 1, 0, 1), i);
     D.due("not seven", y.hold(1, 1, 0, 1), -4);
   }

@@ -108,6 +108,12 @@ public final class EdgesHouseTest {
     D.due("load of worn tent 1", y.piece(1, 2), 16);
     D.due("both are too weak", y.put(8, 3), 5);
     D.due("the tent fell with the flat", y.about(1), 1 | 4);
+    // Worn tents 1 and 2 have 36 each; one falling first would leave 12 on the other.
+    CardHouse z = Due.built("C9909Pa3Pb1Pc1Pd3Pe0Pf3Pg0Ph0Pj0");
+    D.due("20 on tent 1", z.piece(1, 2), 20);
+    D.due("20 on tent 2", z.piece(2, 2), 20);
+    D.due("both fall side by side", z.put(8, 3), 8);
+    D.due("the outer ones stand", z.about(1), 1 | 8);
   }
 
   private static void fallsWithAllOnIt() {

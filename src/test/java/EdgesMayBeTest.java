@@ -15,6 +15,7 @@ public final class EdgesMayBeTest {
     spreadItself();
     standsUnknown();
     standsNoTent();
+    standsFlats();
     standsLeastAndGreatest();
     wantsUnknown();
     wantsBad();
@@ -130,6 +131,12 @@ public final class EdgesMayBeTest {
       }
       if (Ground.TENT[p]) D.due("level of waxed " + p, y.stands(Ground.LEVEL[p]), 1);
     }
+  }
+
+  private static void standsFlats() {
+    D.sentence("STANDS: all its TENTS (not its FLATS)");
+    D.due("heavy tents under a waxed flat", Due.built("C9999Pa3Pb3Pe2").stands(0), 4);
+    D.due("heavy tents under waxed flats", Due.built("C9999Pa3Pb3Pc3Pe2Pf2Ph3Pi3Pk2").stands(1), 4);
   }
 
   private static void standsLeastAndGreatest() {
